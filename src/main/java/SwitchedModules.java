@@ -128,9 +128,9 @@ public final class SwitchedModules {
         if (staged) {
             return NO;
         }
-        int word = draft.firstWrongWord();
-        if (word != NONE) {
-            return WRONG_WORD - word;
+        int wrongWord = draft.firstWrongWord();
+        if (wrongWord != NONE) {
+            return WRONG_WORD - wrongWord;
         }
         int wrongRule = rules.firstWithoutSource(present, draft);
         if (wrongRule != NONE) {
@@ -706,28 +706,26 @@ public final class SwitchedModules {
             int left = fuel;
             for (int o = 1; o <= OBJECTS; o++) {
                 if (has(o) && rules.touched[type[o]]) {
-                    int fieldCount = next.fieldCount[type[o]];
-                    if (left < fieldCount || !makeOverOne(o, rules, fieldCount)) {
+                    int cost = next.fieldCount[type[o]];
+                    if (left < cost || !makeOverOne(o, rules)) {
                         return false;
                     }
-                    left -= fieldCount;
+                    left -= cost;
                 }
             }
             System.arraycopy(madeOver, 0, cells, 0, cells.length);
             return true;
         }
 
-        private boolean makeOverOne(int o, Rules rules, int fieldCount) {
+        /** Goes through the cells beyond the draft's fields, too: having no rules, they become 0. */
+        private boolean makeOverOne(int o, Rules rules) {
             int first = o * MOST_FIELDS;
             for (int f = 0; f < MOST_FIELDS; f++) {
                 int r = type[o] * MOST_FIELDS + f;
-                if (f >= fieldCount) {
-                    madeOver[first + f] = 0;
-                } else if (rules.isFaulty(r, cells, first)) {
+                if (rules.isFaulty(r, cells, first)) {
                     return false;
-                } else {
-                    madeOver[first + f] = rules.valueOf(r, cells, first);
                 }
+                madeOver[first + f] = rules.valueOf(r, cells, first);
             }
             return true;
         }

@@ -33,7 +33,7 @@ public final class HeapTest {
 
     private static void typeOfAndField() {
         SwitchedModules x = Code.running(Code.make(1, 1), Code.put(1, 0, 4), Code.put(1, 0, 7), Code.make(2, 2),
-            Code.get(0, 1, 7), Code.add(0, 0, 0), Code.put(2, 0, 8), Code.await(0), Code.ret(0));
+            Code.set(0, 0), Code.get(0, 1, 7), Code.add(0, 0, 0), Code.put(2, 0, 8), Code.await(0), Code.ret(0));
         x.spawn(0, 21);
         x.step(1, 99);
         DUE.is("21: the first", x.typeOf(1), 1);

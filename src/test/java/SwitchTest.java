@@ -4,6 +4,7 @@ public final class SwitchTest {
 
     public static void main(String[] args) {
         changedWords();
+        cutWordsDoNotCount();
         changedTypes();
         refusedCallsChangeTypes();
         blocker();
@@ -12,6 +13,7 @@ public final class SwitchTest {
         framesGoToPoints();
         madeOver();
         faultsLeaveAllAsItWas();
+        lastObjectIsMadeOver();
         fuel();
         droppedBeforeMadeOver();
         typeGoes();
@@ -52,6 +54,28 @@ public final class SwitchTest {
         DUE.is("9: procedure MAX", x.changed(Code.MAX), false);
         x.withdraw();
         DUE.is("9: withdrawn", x.changed(0), false);
+    }
+
+    private static void cutWordsDoNotCount() {
+        SwitchedModules x = Code.running(Code.point(1), Code.ret(0));
+        x.word(0, 2, 6, 0, 0, 0);
+        x.cut(0, 2);
+        x.spawn(0, 0);
+        x.stage();
+        DUE.is("9: as it was, with a word cut", x.changed(0), false);
+        x.attempt(0);
+        x.fields(0, 1);
+        x.stage();
+        DUE.is("9: the word that was cut had the type", x.changed(0), false);
+        x.withdraw();
+        Code.write(x, 0, Code.ret(0), Code.point(1));
+        x.cut(0, 1);
+        x.stage();
+        DUE.is("10: the point that was cut is none", x.blocker(1), 1);
+        x.withdraw();
+        Code.write(x, 0, Code.point(1), Code.set(1, 1), Code.ret(0));
+        x.stage();
+        DUE.is("10: a point at place 0", x.blocker(1), 0);
     }
 
     private static void changedTypes() {
@@ -129,6 +153,11 @@ public final class SwitchTest {
         DUE.is("10: an ended task has no frames", x.blocker(1), 4);
         x.withdraw();
         DUE.is("10: withdrawn", x.blocker(1), 0);
+        x.reset();
+        x.stage();
+        DUE.is("24: with six tasks", x.collect(), 0);
+        DUE.is("11: with six tasks", x.attempt(0), 1);
+        DUE.is("11: their places stay", x.frame(6, 0, 1), 0);
     }
 
     private static void pointsOnTopAlone() {
@@ -290,6 +319,20 @@ public final class SwitchTest {
         DUE.is("11: another rule", x.attempt(100), 1);
         sees("11: made over then", x, 1, 99, 7);
         sees("11: made over then", x, 3, 99, 4);
+    }
+
+    private static void lastObjectIsMadeOver() {
+        SwitchedModules x = Code.running(Code.point(0), Code.make(1, 2), Code.keep(1, 0), Code.put(1, 0, 8),
+            Code.jump(2, 0), Code.ret(0));
+        x.spawn(0, 1);
+        x.step(1, 80);
+        DUE.is("11: sixteen objects", x.heap(), 16);
+        x.rule(2, 0, 2, 0, 8);
+        x.stage();
+        DUE.is("11: 16 and, by the task's argument, 1 can be reached", x.attempt(2), 1);
+        DUE.is("11: two objects", x.heap(), 2);
+        DUE.is("11: the first one is made over, 8 by 1", x.field(1, 0), 8);
+        DUE.is("11: the last one is made over, 8 by 1", x.field(16, 0), 8);
     }
 
     private static void fuel() {

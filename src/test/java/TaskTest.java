@@ -8,6 +8,7 @@ public final class TaskTest {
         arithmetic();
         jump();
         call();
+        callAgain();
         callTooDeep();
         deepestCall();
         waiting();
@@ -118,6 +119,22 @@ public final class TaskTest {
         DUE.is("RETURN: place", x.frame(1, 0, 1), 2);
         DUE.is("RETURN: ends", x.step(1, 1), 2);
         DUE.is("RETURN: result", x.result(1), 23);
+    }
+
+    /** A second call at the same depth finds nothing of the first one. */
+    private static void callAgain() {
+        SwitchedModules x = Code.runningAll(
+            new int[][] {Code.call(1, 1, 0), Code.call(2, 2, 0), Code.ret(2)},
+            new int[][] {Code.set(1, 5), Code.set(2, 6), Code.ret(1)},
+            new int[][] {Code.point(0), Code.ret(0)});
+        x.spawn(0, 9);
+        x.step(1, 5);
+        int[] want = {2, 0, 9, 0, 0};
+        for (int what = 0; what < 5; what++) {
+            DUE.is("CALL again: what " + what, x.frame(1, 1, what), want[what]);
+        }
+        DUE.is("CALL again: ends", x.step(1, 9), 2);
+        DUE.is("CALL again: into another local", x.result(1), 9);
     }
 
     private static void callTooDeep() {
