@@ -86,32 +86,28 @@ public final class SwitchedModules {
     }
 
     public boolean fields(int t, int n) {
-        if (!isWithin(t, TYPES)) {
-            return false;
-        }
-        // The document counts a call for the type "whatever they said": a refused one, too.
-        rules.touched[t] = true;
-        if (n < 0 || n > MOST_FIELDS || staged) {
+        if (!isWithin(t, TYPES) || n < 0 || n > MOST_FIELDS || staged) {
             return false;
         }
         draft.fieldCount[t] = n;
         rules.forgetType(t);
+        // Also where the type had n fields before: the document asks whether it was called, not for a difference.
+        rules.touched[t] = true;
         return true;
     }
 
     public int rule(int t, int f, int kind, int from, int k) {
-        if (!isWithin(t, TYPES)) {
+        if (!isWithin(t, TYPES) || !isWithin(f, draft.fieldCount[t])) {
             return BAD;
         }
-        // As in fields(): a refused call counts, too.
-        rules.touched[t] = true;
-        if (!isWithin(f, draft.fieldCount[t]) || kind < CONSTANT || kind > DIVIDED || !isWithin(from, MOST_FIELDS)) {
+        if (kind < CONSTANT || kind > DIVIDED || !isWithin(from, MOST_FIELDS)) {
             return BAD;
         }
         if (staged) {
             return NO;
         }
         rules.write(t, f, kind, from, k);
+        rules.touched[t] = true;
         return 0;
     }
 
@@ -559,7 +555,7 @@ public final class SwitchedModules {
         }
     }
 
-    /** How the draft makes objects over, and which types it was asked to change. */
+    /** How the draft makes objects over, and for which types fields() or rule() has done something. */
     private static final class Rules {
         final boolean[] touched = new boolean[TYPES];
         private final int[] kind = new int[TYPES * MOST_FIELDS];

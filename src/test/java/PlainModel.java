@@ -105,10 +105,10 @@ final class PlainModel {
     }
 
     boolean fields(int t, int n) {
-        called.add(t);
         if (t < 0 || t > 2 || n < 0 || n > 4 || staged) {
             return false;
         }
+        called.add(t);
         draft.fields[t] = n;
         for (int f = 0; f < 4; f++) {
             rules.remove(4 * t + f);
@@ -117,13 +117,13 @@ final class PlainModel {
     }
 
     int rule(int t, int f, int kind, int from, int k) {
-        called.add(t);
         if (t < 0 || t > 2 || f < 0 || f >= draft.fields[t] || kind < 0 || kind > 2 || from < 0 || from > 3) {
             return -1;
         }
         if (staged) {
             return -2;
         }
+        called.add(t);
         rules.put(4 * t + f, new Rule(kind, from, k));
         return 0;
     }

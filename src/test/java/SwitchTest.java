@@ -6,7 +6,9 @@ public final class SwitchTest {
         changedWords();
         cutWordsDoNotCount();
         changedTypes();
-        refusedCallsChangeTypes();
+        sameSaidAgainChangesTypes();
+        refusedCallsChangeNoType();
+        refusedWhileStagedChangesNoType();
         blocker();
         pointsOnTopAlone();
         attemptWithoutDoing();
@@ -107,29 +109,58 @@ public final class SwitchTest {
         DUE.is("9: not any more after the switch", x.changed(3), false);
     }
 
-    /** "Whatever they said": the document counts refused calls for a type, too. */
-    private static void refusedCallsChangeTypes() {
+    /** "Whatever they said": fields() and rule() count also where they give a type what it had before. */
+    private static void sameSaidAgainChangesTypes() {
         SwitchedModules x = Code.running(Code.make(0, 0), Code.ret(0));
-        x.fields(0, 5);
-        x.stage();
-        DUE.is("9: fields() said false", x.changed(0), true);
-        x.attempt(0);
-        x.rule(0, 4, 0, 0, 0);
-        x.stage();
-        DUE.is("9: rule() said BAD", x.changed(0), true);
-        x.attempt(0);
         x.stage();
         DUE.is("9: not called", x.changed(0), false);
-        x.rule(0, 0, 0, 0, 0);
-        DUE.is("9: rule() said NO", x.changed(0), true);
-        x.attempt(0);
-        x.fields(3, 1);
-        x.fields(1, 9);
-        x.rule(-1, 0, 0, 0, 0);
-        x.stage();
-        DUE.is("9: called for others", x.changed(0), false);
+        x.withdraw();
         x.fields(0, 2);
-        DUE.is("9: fields() said false when staged", x.changed(0), true);
+        x.stage();
+        DUE.is("9: fields() with as many as before", x.changed(0), true);
+        x.attempt(0);
+        x.rule(0, 0, 0, 0, 0);
+        x.stage();
+        DUE.is("9: rule() like having none", x.changed(0), true);
+        x.withdraw();
+        x.reset();
+        x.stage();
+        DUE.is("9: not any more after reset()", x.changed(0), false);
+    }
+
+    private static void refusedCallsChangeNoType() {
+        SwitchedModules x = Code.running(Code.make(0, 0), Code.ret(0));
+        DUE.is("4: too many fields", x.fields(0, 5), false);
+        DUE.is("4: too few fields", x.fields(0, -1), false);
+        DUE.is("5: no such field", x.rule(0, 4, 0, 0, 0), Code.BAD);
+        DUE.is("5: no such kind", x.rule(0, 0, 3, 0, 0), Code.BAD);
+        DUE.is("5: no such from", x.rule(0, 0, 1, 4, 0), Code.BAD);
+        DUE.is("4: no such type", x.fields(3, 1), false);
+        DUE.is("5: no such type", x.rule(-1, 0, 0, 0, 0), Code.BAD);
+        x.stage();
+        DUE.is("9: all calls were refused", x.changed(0), false);
+    }
+
+    /** A staged draft cannot be changed: neither a changed type nor an object made over comes of a refused call. */
+    private static void refusedWhileStagedChangesNoType() {
+        SwitchedModules x = Code.running(Code.make(1, 0), Code.set(2, 7), Code.put(1, 2, 0), Code.keep(1, 0),
+            Code.ret(0));
+        x.spawn(0, 0);
+        x.step(1, 9);
+        x.spawn(0, 0);
+        x.stage();
+        DUE.is("4: staged", x.fields(0, 1), false);
+        DUE.is("9: fields() was refused", x.changed(0), false);
+        DUE.is("5: staged", x.rule(0, 0, 0, 0, 3), Code.NO);
+        DUE.is("9: rule() was refused", x.changed(0), false);
+        DUE.is("10: no frame stands in the way", x.blocker(1), 0);
+        DUE.is("11: no fuel is needed", x.attempt(0), 1);
+        DUE.is("11: the object is as it was", x.field(1, 0), 7);
+        x.stage();
+        x.fields(0, 1);
+        x.withdraw();
+        x.stage();
+        DUE.is("9: nor after withdraw()", x.changed(0), false);
     }
 
     private static void blocker() {
