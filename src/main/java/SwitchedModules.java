@@ -613,7 +613,7 @@ public final class SwitchedModules {
         }
     }
 
-    /** Objects by number; row 0 stays unused. Cells beyond a type's fields are always 0, which is no object's number. */
+    /** Objects by number; row 0 stays unused. Cells beyond a type's fields are always 0, which is no object. */
     private static final class Heap {
         final int[] type = new int[OBJECTS + 1];
         final int[] cells = new int[(OBJECTS + 1) * MOST_FIELDS];

@@ -196,7 +196,8 @@ public final class DraftTest {
     }
 
     private static void resetForgetsRulesAndChangedTypes() {
-        SwitchedModules x = Code.running(Code.make(0, 0), Code.keep(0, 0), Code.set(1, 6), Code.put(0, 1, 1), Code.ret(0));
+        SwitchedModules x = Code.running(Code.make(0, 0), Code.keep(0, 0), Code.set(1, 6), Code.put(0, 1, 1),
+            Code.ret(0));
         x.spawn(0, 0);
         x.step(1, 9);
         x.rule(0, 0, 0, 0, 3);

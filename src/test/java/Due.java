@@ -15,6 +15,13 @@ final class Due {
         is(what, got ? 1 : 0, want ? 1 : 0);
     }
 
+    void same(String what, String got, String want) {
+        is(what, got.equals(want), true);
+        if (!got.equals(want)) {
+            System.out.println("  it was: " + got + "\n  due is: " + want);
+        }
+    }
+
     void end() {
         System.out.println(calls + " answers looked at, " + wrong + " not as due");
         if (wrong != 0 || calls == 0) {
